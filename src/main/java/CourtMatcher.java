@@ -16,7 +16,8 @@ public final class CourtMatcher {
     private static final long LIMIT = 1000000000L;
     private static final int BARRED = 1, FORCED = 2;
 
-    private static final int RULES = 4, TAPE_SIZE = 60, MOST_PARTS = 24, MOST_WEIGHT = 60, MOST_OPEN = 5, MOST_DIGITS = 4;
+    private static final int RULES = 4, TAPE_SIZE = 60;
+    private static final int MOST_PARTS = 24, MOST_WEIGHT = 60, MOST_OPEN = 5, MOST_DIGITS = 4;
     /** Room for the 24 PARTS of a TEXT and for a leap behind each of its choices. */
     private static final int STEPS = 40;
 
