@@ -44,7 +44,6 @@ public final class CourtMatcher {
     private boolean imaged = false;
 
     private final Tape tape = new Tape();
-    private Rule draft = new Rule();
     private final Teller teller = new Teller();
 
     private final Plan plan = new Plan();
@@ -142,19 +141,19 @@ public final class CourtMatcher {
         if (!isRule(rule)) {
             return BAD;
         }
-        int fault = tape.parse(draft);
+        int fault = tape.parse();
         tape.size = 0;
         if (fault != NONE) {
             return FAULTS - fault;
         }
         Rule was = court.rules[rule];
-        court.rules[rule] = draft;
+        court.rules[rule] = tape.draft;
         int refusal = court.refusalOf(rule);
         if (refusal != 0) {
             court.rules[rule] = was;
             return refusal;
         }
-        draft = was;
+        tape.draft = was;
         changed();
         return court.rules[rule].parts;
     }
@@ -783,7 +782,8 @@ public final class CourtMatcher {
     private static final class Tape {
         final int[] bytes = new int[TAPE_SIZE];
         int size = 0;
-        private Rule rule = null;
+        /** The RULE that the TEXT is made in; text() gives another one for it. */
+        Rule draft = new Rule();
         private int at = 0, nested = 0;
         /** The TOKEN that is looked at: a sign is its own byte; a LEAF, a FUNCTION come with op and arg. */
         private int token = END, place = 0, op = 0, arg = 0;
@@ -797,10 +797,9 @@ public final class CourtMatcher {
             return true;
         }
 
-        /** Makes of all bytes the TEXT of a RULE: NONE, or the place of the FAULT. */
-        int parse(Rule target) {
-            rule = target;
-            rule.clear();
+        /** Makes of all bytes the TEXT of the draft: NONE, or the place of the FAULT. */
+        int parse() {
+            draft.clear();
             at = 0;
             nested = 0;
             step();
@@ -821,20 +820,20 @@ public final class CourtMatcher {
             if (!part() || !sum() || token != '?') {
                 return false;
             }
-            int choice = rule.steps;
-            rule.add(LESS, 0, sign);
+            int choice = draft.steps;
+            draft.add(LESS, 0, sign);
             step();
             if (!expr() || token != ':') {
                 return false;
             }
-            int leap = rule.steps;
-            rule.add(LEAP, 0, place);
-            rule.landHere(choice);
+            int leap = draft.steps;
+            draft.add(LEAP, 0, place);
+            draft.landHere(choice);
             step();
             if (!expr()) {
                 return false;
             }
-            rule.landHere(leap);
+            draft.landHere(leap);
             return true;
         }
 
@@ -848,7 +847,7 @@ public final class CourtMatcher {
                 if (!part() || !product()) {
                     return false;
                 }
-                rule.add(sort, 0, sign);
+                draft.add(sort, 0, sign);
             }
             return true;
         }
@@ -862,7 +861,7 @@ public final class CourtMatcher {
                 if (!part() || !factor()) {
                     return false;
                 }
-                rule.add(MUL, 0, sign);
+                draft.add(MUL, 0, sign);
             }
             return true;
         }
@@ -880,7 +879,7 @@ public final class CourtMatcher {
                 return false;
             }
             if (turned) {
-                rule.add(NEG, 0, 0);
+                draft.add(NEG, 0, 0);
             }
             return true;
         }
@@ -888,15 +887,15 @@ public final class CourtMatcher {
         private boolean atom() {
             switch (token) {
                 case LEAF:
-                    rule.add(op, arg, place);
+                    draft.add(op, arg, place);
                     return part();
                 case '(':
                     return enter() && expr() && leave(')');
                 case '|':
-                    if (rule.parts >= MOST_PARTS || !enter() || !expr() || !leave('|')) {
+                    if (draft.parts >= MOST_PARTS || !enter() || !expr() || !leave('|')) {
                         return false;
                     }
-                    rule.add(ABS, 0, 0);
+                    draft.add(ABS, 0, 0);
                     return true;
                 case FUNCTION:
                     return function();
@@ -915,15 +914,15 @@ public final class CourtMatcher {
             if (!expr() || !leave(')')) {
                 return false;
             }
-            rule.add(sort, 0, word);
+            draft.add(sort, 0, word);
             return true;
         }
 
         private boolean part() {
-            if (rule.parts >= MOST_PARTS) {
+            if (draft.parts >= MOST_PARTS) {
                 return false;
             }
-            rule.parts++;
+            draft.parts++;
             step();
             return true;
         }
@@ -933,7 +932,7 @@ public final class CourtMatcher {
                 return false;
             }
             if (token == '|') {
-                rule.parts++;
+                draft.parts++;
             }
             nested++;
             step();
@@ -1160,7 +1159,7 @@ public final class CourtMatcher {
         int matters = 0, cases = 0;
         final int[] order = new int[SEATS];
         /** Bits of the judges who are OPEN to one of these. */
-        int judges = 0;
+        int openJudges = 0;
         /** Burdens of PAIRS whose judge and case are IN (NO: none); the judges OPEN to a case, as bits. */
         final long[] burdens = new long[PAIRS];
         final int[] rows = new int[SEATS];
@@ -1262,19 +1261,19 @@ public final class CourtMatcher {
 
         private void listCases() {
             cases = 0;
-            judges = 0;
+            openJudges = 0;
             for (int matter = 0; matter < SEATS; matter++) {
                 if (((matters >> matter) & 1) == 1) {
                     order[cases] = matter;
                     cases++;
-                    judges |= rows[matter];
+                    openJudges |= rows[matter];
                 }
             }
         }
 
         /** Whether a set of judges may come to be taken at all; of others nothing is reckoned. */
         boolean canTake(int used) {
-            return (used & ~judges) == 0;
+            return (used & ~openJudges) == 0;
         }
 
         private void weighFrom(int used, int matter, boolean byHeaviest) {

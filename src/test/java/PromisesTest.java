@@ -222,6 +222,15 @@ public final class PromisesTest {
         for (int[] w : wrong) {
             due("mark(" + w[0] + ", " + w[1] + ", " + w[2] + ")", x.mark(w[0], w[1], w[2]), BAD);
         }
+        CourtMatcher first = new CourtMatcher();
+        first.mark(0, 0, 2);
+        due("beside the first PAIR", first.mark(0, 7, 2), STATE);
+        due("beside the first PAIR", first.mark(7, 0, 2), STATE);
+        due("apart", first.mark(7, 7, 2), 0);
+        first = court(2, 1);
+        due("OPEN ones", first.count(2), 2);
+        first.mark(1, 0, 1);
+        due("OPEN ones follow", first.count(2), 1);
         due("three FORCED", x.count(3), 3);
         due("none BARRED", x.count(4), 0);
     }
@@ -359,6 +368,11 @@ public final class PromisesTest {
         fault("min a", 4);
         fault("min", 3);
         fault("min2(a,b)", 3);
+        for (String word : new String[] {"mid", "dim", "did", "dix", "dov", "xiv", "mad", "man", "mox", "mix", "nax", "vod",
+            "min", "max", "div", "mod", "mmin", "maxx", "di", "moda"}) {
+            boolean one = word.equals("min") || word.equals("max") || word.equals("div") || word.equals("mod");
+            fault(word + " a", one ? 4 : 0);
+        }
         fault("min(a)", 5);
         fault("min(a,b,c)", 7);
         fault("min(,b)", 4);
@@ -431,6 +445,25 @@ public final class PromisesTest {
         due("value", x.value(2, 0, 0), 14);
     }
 
+    private static void promise9Tape() {
+        CourtMatcher x = new CourtMatcher();
+        due("(((((, all open", text(x, 0, "((((("), -105);
+        due("||||| at a FAULT", text(x, 0, "|||||a b"), -107);
+        due("brackets anew", text(x, 0, "(((((7)))))"), 1);
+        String blanks = "                                                       ";
+        due("60 bytes, digits last", text(x, 0, blanks + "10+23"), 3);
+        due("VALUE", x.value(0, 0, 0), 33);
+        due("60 bytes, blanks last", text(x, 0, "5+6+7" + blanks), 5);
+        due("VALUE", x.value(0, 0, 0), 18);
+        due("60 bytes, a word last", text(x, 0, blanks + "1+max"), -160);
+        due("60 bytes, a name last", text(x, 0, blanks + "1+2+a"), 5);
+        due("60 bytes, none such last", text(x, 0, blanks + "1+aaa"), -157);
+        due("60 bytes, too long", text(x, 0, blanks + "12345"), -155);
+        due("VALUE stays", x.value(0, 0, 0), 3);
+        due("old bytes are gone", text(x, 0, "4"), 1);
+        due("VALUE", x.value(0, 0, 0), 4);
+    }
+
     private static void promise9Weight() {
         CourtMatcher x = new CourtMatcher();
         String nineteen = "1+1+1+1+1+1+1+1+1+1";
@@ -491,6 +524,9 @@ public final class PromisesTest {
                 due("told(" + rule + ", " + what + ")", x.told(rule, what), after[rule][what]);
             }
         }
+        x.empty(2);
+        due("WEIGHT follows", x.told(0, 1), 13);
+        due("REACH follows", x.told(0, 4), 14);
         x.empty(0);
         due("named by none", x.told(1, 3), 0);
         int[] wrong = {-1, 4, LOW, HIGH};
@@ -871,6 +907,13 @@ public final class PromisesTest {
             due("kind(0, " + w + ")", x.kind(0, w), BAD);
             due("BAD ahead of STATE", court(0, 1).kind(w, 0), BAD);
         }
+        // case 0 may have judge 0 or 1, case 1 has judge 3 in all; so has case 2 judge 2
+        CourtMatcher y = court(new int[][] {{1, 9, 9}, {1, 9, 9}, {9, 9, 1}, {9, 1, 9}});
+        due("many", y.many(), 2);
+        due("in one of two", y.kind(1, 0), 1);
+        due("in both", y.kind(3, 1), 2);
+        due("in both", y.kind(2, 2), 2);
+        due("in none", y.kind(1, 1), 0);
         x.tell(0, 0, 2);
         due("in all now", x.kind(0, 0), 2);
         due("in none now", x.kind(0, 1), 0);
@@ -977,6 +1020,12 @@ public final class PromisesTest {
         due("OPEN ones alone", x.fair(2), 2);
         x.mark(1, 1, 1);
         due("BARRED one isn't", x.fair(2), 1);
+        // the first PAIR is too heavy, though the best one has it
+        x = court(new int[][] {{9, 8}, {8, 0}});
+        due("total", x.total(), 9);
+        due("least HEAVIEST", x.fair(0), 8);
+        due("least TOTAL with it", x.fair(1), 16);
+        due("greater ones", x.fair(2), 1);
         CourtMatcher empty = court(2, 0);
         due("the empty one", empty.fair(0), 0);
         due("the empty one", empty.fair(1), 0);
@@ -989,7 +1038,7 @@ public final class PromisesTest {
         for (int w : wrong) {
             due("fair(" + w + ")", x.fair(w), NO);
         }
-        due("total stays", x.total(), 16);
+        due("total stays", x.total(), 9);
     }
 
     // ---- days, what is short, what would be
@@ -1014,6 +1063,15 @@ public final class PromisesTest {
         x.mark(0, 7, 2);
         due("judge 0 is forced elsewhere", x.days(1), 4);
         due("one that isn't heard goes on forcing", x.days(2), NO);
+        x.here(0, 2, 0);
+        due("none any more", x.days(1), NO);
+        due("none any more", x.day(0, 0), STATE);
+        // 0 + 10 comes before 6 + 6
+        CourtMatcher sums = court(new int[][] {{0, 6}, {6, 10}});
+        due("by TOTAL", sums.days(1), 10);
+        due("the other one", sums.days(2), 22);
+        sums.mark(0, 0, 2);
+        due("the first PAIR, FORCED", sums.days(2), 22);
         due("nobody asks", court(3, 0).days(8), 0);
         due("eight", court(8, 8).days(8), 0);
         due("none", court(0, 1).days(1), NO);
@@ -1155,7 +1213,7 @@ public final class PromisesTest {
         due("(0, 1) is in a BEST one", x.tells(1, 2), 1);
         row(x, 1, 0, 3, 2, 1);
         due("in no BEST one", x.tells(1, 2), 0);
-        long[][] none = {{0, 1}, {0, 1, 2, 3}, {0, 0, 1}, {0, 1, 4}, {0, 1, -1}, {0, 1, 8}, {0, 1, 2 + (1L << 32)}, {},
+        long[][] none = {{0, 1}, {0, 1, 2, 3}, {0, 0, 1}, {0, 1, 0}, {2, 1, 1}, {1, 2, 1}, {0, 1, 4}, {0, 1, -1}, {0, 1, 8}, {0, 1, 2 + (1L << 32)}, {},
             {Long.MIN_VALUE, 1, 2}, {0, Long.MAX_VALUE, 2}};
         for (long[] items : none) {
             row(x, 2, 0, items);
@@ -1223,6 +1281,14 @@ public final class PromisesTest {
         y.film(0, 0);
         due("a row of none", y.put(0, 0, 1), OUTSIDE);
         due("none", court(0, 1).film(0, 0), STATE);
+        CourtMatcher all = court(8, 8);
+        due("all eight", all.film(2, 40319), 8);
+        for (int matter = 0; matter < 8; matter++) {
+            due("judge of case " + matter, all.item(2, matter), 7 - matter);
+        }
+        due("no ninth", all.item(2, 8), NO);
+        due("it tells that one", all.tells(2, 0), 0);
+        due("none of the first 12", all.tells(2, 1), NONE);
     }
 
     private static void promise30() {
@@ -1288,6 +1354,13 @@ public final class PromisesTest {
         text(x, 0, "9");
         text(x, 3, "8");
         due("laid back once more", x.back(), 2);
+        text(x, 0, "div(1,0)");
+        x.image();
+        text(x, 0, "   mod(1,0)");
+        x.back();
+        due("PLACE as kept", x.why(0, 0, 1), 0);
+        text(x, 0, "b-z+q");
+        text(x, 3, "div(1,0)");
         due("as kept", x.told(0, 0), 5);
         due("as kept", x.value(3, 0, 0), NO);
         due("as kept", x.trait(0, 0, 1, 1), 17);
@@ -1452,6 +1525,10 @@ public final class PromisesTest {
         due("burden", x.burden(0, 0), 3);
         due("total follows", x.total(), 0);
         x.tell(0, 1, 9);
+        due("total", x.total(), 7);
+        x.lay(0, 0, 0, 3, 1);
+        due("total follows", x.total(), 9);
+        x.lay(0, 0, 0, 0, 1);
         due("total follows", x.total(), 7);
         row(x, 1, 2, 200, 1);
         due("bytes", x.lay(1, 0, 2, 0, 2), 2);
@@ -1498,6 +1575,7 @@ public final class PromisesTest {
         Check.test("promise 9: text, what reads", PromisesTest::promise9Texts);
         Check.test("promise 9: text, faults", PromisesTest::promise9Faults);
         Check.test("promise 9: text, rings", PromisesTest::promise9Rules);
+        Check.test("promise 9: text, the tape", PromisesTest::promise9Tape);
         Check.test("promise 9: text, weights", PromisesTest::promise9Weight);
         Check.test("promise 10: empty", PromisesTest::promise10);
         Check.test("promise 11: told", PromisesTest::promise11);

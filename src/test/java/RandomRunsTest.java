@@ -323,6 +323,10 @@ public final class RandomRunsTest {
             tellAll(1 + upTo(20));
         }
         seatAll();
+        for (int sort = 0; sort < 3; sort++) {
+            int n = upTo(seats + 1);
+            due("sheet(" + sort + ", " + sort + ", " + n + ")", x.sheet(sort, sort, n), y.sheet(sort, sort, n));
+        }
         while (calls < length) {
             int sort = upTo(10);
             if (sort < 3) {
