@@ -1281,12 +1281,16 @@ public final class CourtMatcher {
             int count = 0;
             int free = rows[matter] & ~used;
             for (int judge = 0; judge < SEATS; judge++) {
+                if (((free >> judge) & 1) == 0) {
+                    continue;
+                }
                 int then = used | (1 << judge);
-                if (((free >> judge) & 1) == 0 || least[then] == NO) {
+                long rest = least[then];
+                if (rest == NO) {
                     continue;
                 }
                 long own = burdens[judge * SEATS + matter];
-                long sum = byHeaviest ? Math.max(own, least[then]) : own + least[then];
+                long sum = byHeaviest ? Math.max(own, rest) : own + rest;
                 if (low == NO || sum < low) {
                     low = sum;
                     count = 0;
@@ -1578,7 +1582,9 @@ public final class CourtMatcher {
         /** The judge that comes next, and which way of the set with that judge it goes on with. */
         private final int[] firsts = new int[SETS * NEXT_ONES];
         private final int[] onward = new int[SETS * NEXT_ONES];
+        /** By judge: how many ways have been taken from the front, and what the next one comes to (NO: none). */
         private final int[] heads = new int[SEATS];
+        private final long[] sums = new long[SEATS];
         final int[] judges = new int[NEXT_ONES * SEATS];
 
         void find(Plan plan) {
@@ -1603,40 +1609,42 @@ public final class CourtMatcher {
         /** Of the ways by each judge, which are in order, the first of all is taken time and again. */
         private int merge(Plan plan, int used, int matter) {
             Arrays.fill(heads, 0);
+            for (int judge = 0; judge < SEATS; judge++) {
+                sums[judge] = headTotal(plan, used, matter, judge);
+            }
             for (int found = 0; found < NEXT_ONES; found++) {
-                int judge = firstJudge(plan, used, matter);
+                int judge = firstJudge();
                 if (judge == NONE) {
                     return found;
                 }
                 int place = used * NEXT_ONES + found;
-                totals[place] = headTotal(plan, used, matter, judge);
+                totals[place] = sums[judge];
                 firsts[place] = judge;
                 onward[place] = heads[judge];
                 heads[judge]++;
+                sums[judge] = headTotal(plan, used, matter, judge);
             }
             return NEXT_ONES;
         }
 
-        private int firstJudge(Plan plan, int used, int matter) {
+        /** TOTAL of the first way by a judge that isn't taken yet; NO: there is none. */
+        private long headTotal(Plan plan, int used, int matter, int judge) {
+            int bit = 1 << judge;
+            int then = used | bit;
+            if ((plan.rows[matter] & ~used & bit) == 0 || heads[judge] >= sizes[then]) {
+                return NO;
+            }
+            return plan.burdens[judge * SEATS + matter] + totals[then * NEXT_ONES + heads[judge]];
+        }
+
+        private int firstJudge() {
             int first = NONE;
-            long low = 0;
-            int free = plan.rows[matter] & ~used;
             for (int judge = 0; judge < SEATS; judge++) {
-                if (((free >> judge) & 1) == 0 || heads[judge] >= sizes[used | (1 << judge)]) {
-                    continue;
-                }
-                long sum = headTotal(plan, used, matter, judge);
-                if (first == NONE || sum < low) {
+                if (sums[judge] != NO && (first == NONE || sums[judge] < sums[first])) {
                     first = judge;
-                    low = sum;
                 }
             }
             return first;
-        }
-
-        private long headTotal(Plan plan, int used, int matter, int judge) {
-            int then = used | (1 << judge);
-            return plan.burdens[judge * SEATS + matter] + totals[then * NEXT_ONES + heads[judge]];
         }
 
         private void follow(Plan plan, int i) {
