@@ -193,14 +193,14 @@ public final class CourtMatcher {
         if (!isRule(rule) || !isPair(judge, matter)) {
             return NO;
         }
-        return teller.read(court, rule, judge * SEATS + matter, 0);
+        return teller.tellBy(court, rule, judge * SEATS + matter);
     }
 
     public int why(int judge, int matter, int what) {
         if (!isPair(judge, matter) || what < 0 || what > 4) {
             return BAD;
         }
-        boolean fails = teller.read(court, 0, judge * SEATS + matter, 0) == NO;
+        boolean fails = teller.tellBy(court, 0, judge * SEATS + matter) == NO;
         if (!fails) {
             return what == 0 ? 0 : NONE;
         }
@@ -1064,15 +1064,20 @@ public final class CourtMatcher {
             if (court.own[pair] != NONE) {
                 return court.own[pair];
             }
-            long told = read(court, 0, pair, 0);
+            long told = tellBy(court, 0, pair);
             return told == NO ? NO : Math.max(told, 0);
         }
 
+        /** VALUE of a RULE; NO: it FAILS. */
+        long tellBy(Court court, int number, int pair) {
+            return read(court, number, pair, 0);
+        }
+
         /**
-         * VALUE of a RULE, named by as many others in turn as depth tells; NO: it FAILS.
+         * VALUE of a RULE that is named by as many others in turn as depth tells.
          * No RULE comes to name itself, so that the depth stays below the number of RULES.
          */
-        long read(Court court, int number, int pair, int depth) {
+        private long read(Court court, int number, int pair, int depth) {
             if (depth >= RULES) {
                 return NO;
             }
@@ -1088,7 +1093,7 @@ public final class CourtMatcher {
                 int sign = rule.places[at];
                 at++;
                 if (op <= OF_RULE) {
-                    stack[top] = op == OF_RULE ? read(court, arg, pair, depth + 1) : leaf(court, op, arg, pair);
+                    stack[top] = operand(court, op, arg, pair, depth);
                     if (stack[top] == NO) {
                         return NO;
                     }
@@ -1114,7 +1119,10 @@ public final class CourtMatcher {
             return stack[base];
         }
 
-        private static long leaf(Court court, int op, int arg, int pair) {
+        private long operand(Court court, int op, int arg, int pair, int depth) {
+            if (op == OF_RULE) {
+                return read(court, arg, pair, depth + 1);
+            }
             if (op == NUMBER) {
                 return arg;
             }
