@@ -388,6 +388,25 @@ public final class BoundsOfBestTest extends Scene {
             due("its TOTAL", x.fair(1), 12);
             due("greater ones", x.fair(2), 1);
         });
+        test("23 fair: the first PAIR, the last PAIR are too heavy, though the best one has them", () -> {
+            CourtMatcher x = court(new long[][] {{9, 8}, {8, 0}});
+            due("TOTAL of the best", x.total(), 9);
+            due("HEAVIEST", x.fair(0), 8);
+            due("its TOTAL", x.fair(1), 16);
+            due("greater ones", x.fair(2), 1);
+            CourtMatcher last = new CourtMatcher();
+            for (int i = 6; i < 8; i++) {
+                last.here(0, i, 1);
+                last.here(1, i, 1);
+            }
+            last.tell(7, 7, 9);
+            last.tell(6, 7, 8);
+            last.tell(7, 6, 8);
+            due("TOTAL of the best", last.total(), 9);
+            due("HEAVIEST", last.fair(0), 8);
+            due("its TOTAL", last.fair(1), 16);
+            due("greater ones", last.fair(2), 1);
+        });
         test("23 fair: the least TOTAL of those with it, not of all below", () -> {
             CourtMatcher x = court(new long[][] {{7, 1}, {7, 7}, {3, 7}});
             // case 0 by judge 2, case 1 by judge 0: 4

@@ -119,6 +119,18 @@ public final class BoundsOfRoundsTest extends Scene {
             due("of either case", firstRise(5, 9, 6), 1);
             due("LIMIT", firstRise(0, LIMIT, LIMIT), LIMIT);
             due("LIMIT - 1", firstRise(0, LIMIT, LIMIT - 1), LIMIT - 1);
+            CourtMatcher x = court(new long[][] {{5, 9}, {1, 1}});
+            x.solve();
+            due("by the first PAIR", x.round(0, 4), 4);
+            CourtMatcher last = new CourtMatcher();
+            for (int i = 6; i < 8; i++) {
+                last.here(0, i, 1);
+                last.here(1, i, 1);
+            }
+            last.tell(7, 7, 3);
+            last.tell(7, 6, 8);
+            last.solve();
+            due("by the last PAIR", last.round(0, 4), 3);
         });
         test("terms 3, RISE: of OPEN PAIRS alone", () -> {
             CourtMatcher x = court(new long[][] {{1, 1}, {3, 9}, {8, 7}});

@@ -421,6 +421,21 @@ public final class BoundsOfRulesTest extends Scene {
             keeps("FAULT in RULE 0", RINGS, "a+", 0, -102);
             keeps("FAULT in RULE 3", RINGS, ";", 3, -100);
         });
+        test("9 text: of longer TEXTS that were there before nothing is left", () -> {
+            CourtMatcher x = new CourtMatcher();
+            String[] longer = {"1+2+3+4", "-1-2-3-4-5", "1*2*|3|*4*q", "div(9,2+0)+min(3,4)"};
+            for (String first : longer) {
+                for (int i = 0; i < 3; i++) {
+                    text(x, 0, first);
+                }
+                text(x, 0, "5");
+                due("the first, behind " + first, text(x, 0, "1<2?7:8"), 5);
+                due("VALUE", x.value(0, 0, 0), 7);
+                due("names", x.told(0, 2), 0);
+                due("the second, behind " + first, text(x, 0, "2<1?7:8"), 5);
+                due("VALUE", x.value(0, 0, 0), 8);
+            }
+        });
         test("9 text: a TEXT takes the place of another one", () -> {
             CourtMatcher x = new CourtMatcher();
             text(x, 0, "q+r+s+1");
@@ -836,6 +851,21 @@ public final class BoundsOfRulesTest extends Scene {
             due("FAILS", x.why(0, 0, 1), 0);
             for (int what = 0; what < 5; what++) {
                 due("doesn't", x.why(1, 0, what), what == 0 ? 0 : NONE);
+            }
+        });
+        test("13 why: of each of 64 PAIRS, by its judge and its case", () -> {
+            CourtMatcher x = new CourtMatcher();
+            text(x, 0, "div(1,a-x)");
+            for (int i = 0; i < 8; i++) {
+                x.trait(0, i, 0, i);
+                x.trait(1, i, 0, 7 - i);
+            }
+            for (int i = 0; i < 64; i++) {
+                boolean fails = i / 8 + i % 8 == 7;
+                due("KIND of " + i, x.why(i / 8, i % 8, 0), fails ? 1 : 0);
+                due("PLACE of " + i, x.why(i / 8, i % 8, 1), fails ? 0 : NONE);
+                due("VALUE of " + i + " is none", x.value(0, i / 8, i % 8) == NO ? 1 : 0, fails ? 1 : 0);
+                due("BURDEN of " + i + " is none", x.burden(i / 8, i % 8) == NO ? 1 : 0, fails ? 1 : 0);
             }
         });
         test("13 why: KIND 1, at the first byte of the WORD", () -> {

@@ -35,8 +35,8 @@ abstract class Scene {
     static final Maker NEW = CourtMatcher::new, RICH = Scene::rich, STUCK = Scene::stuck;
 
     private static final Probe[] PROBES = {
-        Scene::probeBestOnes, Scene::probeDaysAndKinds, Scene::probePairs, Scene::probeRules, Scene::probeKept,
-        Scene::probeTape, Scene::probeImage};
+        Scene::probeBestOnes, Scene::probeDaysAndKinds, Scene::probeRooms, Scene::probePairs, Scene::probeRules,
+        Scene::probeKept, Scene::probeTape, Scene::probeImage};
     private static final Map<Maker, List<List<Long>>> KNOWN = new HashMap<>();
 
     // ---- courts
@@ -242,11 +242,16 @@ abstract class Scene {
             for (int j = 0; j < 8; j++) {
                 answers.add((long) x.day(i, j));
                 answers.add((long) x.kind(i, j));
-                answers.add(x.room(i, j, 0));
-                answers.add(x.room(i, j, 1));
                 answers.add((long) x.why(i, j, 0));
                 answers.add((long) x.why(i, j, 3));
             }
+        }
+    }
+
+    private static void probeRooms(CourtMatcher x, List<Long> answers) {
+        for (int i = 0; i < 64; i++) {
+            answers.add(x.room(i / 8, i % 8, 0));
+            answers.add(x.room(i / 8, i % 8, 1));
         }
     }
 
