@@ -30,6 +30,8 @@ public final class CourtMatcher {
     private static final int BY_ZERO = 1, TOO_GREAT = 2;
 
     private static final int NEXT_ONES = 12, DAYS = 8, SHEETS = 4, SHEET_SIZE = 40;
+    /** Each NEXT ONE that is found brings a part for each case at most. */
+    private static final int MOST_WAITING = 1 + NEXT_ONES * SEATS;
     private static final int LONGS = 0, INTS = 1, BYTES = 2;
 
     private static final int FACTS = 6;
@@ -304,7 +306,7 @@ public final class CourtMatcher {
             return NO;
         }
         refreshNextOnes();
-        if (i >= nextOnes.sizes[0]) {
+        if (i >= nextOnes.found) {
             return NO;
         }
         return what == NONE ? nextOnes.totals[i] : nextOnes.judges[i * SEATS + what];
@@ -1064,7 +1066,7 @@ public final class CourtMatcher {
             if (court.own[pair] != NONE) {
                 return court.own[pair];
             }
-            long told = tellBy(court, 0, pair);
+            long told = read(court, 0, pair, 0);
             return told == NO ? NO : Math.max(told, 0);
         }
 
@@ -1316,6 +1318,27 @@ public final class CourtMatcher {
                 return false;
             }
             return burdens[judge * SEATS + matter] + least[used | bit] == least[used];
+        }
+
+        /**
+         * The first judge for a case by whom those that have taken these judges come to least, if some judges are
+         * closed to it; NONE: there is none.
+         */
+        int firstLead(int used, int matter, int shut) {
+            int first = NONE;
+            long low = NO;
+            int free = rows[matter] & ~used & ~shut;
+            for (int judge = 0; judge < SEATS; judge++) {
+                if (((free >> judge) & 1) == 0 || least[used | (1 << judge)] == NO) {
+                    continue;
+                }
+                long sum = burdens[judge * SEATS + matter] + least[used | (1 << judge)];
+                if (first == NONE || sum < low) {
+                    first = judge;
+                    low = sum;
+                }
+            }
+            return first;
         }
 
         /** The judges of BEST one i by cases, which is one of those that there are. */
@@ -1583,95 +1606,118 @@ public final class CourtMatcher {
         }
     }
 
-    /** NEXT ONES: by the set of judges that the first cases have taken, the first 12 ways to go on. */
+    /**
+     * NEXT ONES. A part of the FULL ones is: those that keep the first cases, by number, of one that was found, and
+     * give the next case none of the judges closed to it. Of each part the first one waits; the first of all that wait
+     * is found next, and the rest of its part splits by the case at which it leaves the one found.
+     */
     private static final class NextOnes {
-        final int[] sizes = new int[SETS];
-        final long[] totals = new long[SETS * NEXT_ONES];
-        /** The judge that comes next, and which way of the set with that judge it goes on with. */
-        private final int[] firsts = new int[SETS * NEXT_ONES];
-        private final int[] onward = new int[SETS * NEXT_ONES];
-        /** By judge: how many ways have been taken from the front, and what the next one comes to (NO: none). */
-        private final int[] heads = new int[SEATS];
-        private final long[] sums = new long[SEATS];
+        int found = 0;
+        final long[] totals = new long[NEXT_ONES];
         final int[] judges = new int[NEXT_ONES * SEATS];
+        private int waiting = 0;
+        /** By part: TOTAL and judges by cases of its first one, how many cases it keeps, whom it closes (bits). */
+        private final long[] sums = new long[MOST_WAITING];
+        private final int[] picks = new int[MOST_WAITING * SEATS];
+        private final int[] keeps = new int[MOST_WAITING];
+        private final int[] closed = new int[MOST_WAITING];
 
         void find(Plan plan) {
-            for (int used = SETS - 1; used >= 0; used--) {
-                if (!plan.canTake(used)) {
-                    continue;
-                }
-                int turn = Integer.bitCount(used);
-                if (turn < plan.cases) {
-                    sizes[used] = plan.least[used] == NO ? 0 : merge(plan, used, plan.order[turn]);
-                } else {
-                    sizes[used] = 1;
-                    totals[used * NEXT_ONES] = 0;
-                }
-            }
-            Arrays.fill(judges, NONE);
-            for (int i = 0; i < sizes[0]; i++) {
-                follow(plan, i);
+            found = 0;
+            waiting = 0;
+            propose(plan, 0, 0, 0);
+            for (int i = 0; i < NEXT_ONES && waiting > 0; i++) {
+                int part = firstPart();
+                int turn = keeps[part];
+                int shut = closed[part];
+                keep(part);
+                drop(part);
+                split(plan, turn, shut);
             }
         }
 
-        /** Of the ways by each judge, which are in order, the first of all is taken time and again. */
-        private int merge(Plan plan, int used, int matter) {
-            Arrays.fill(heads, 0);
-            for (int judge = 0; judge < SEATS; judge++) {
-                sums[judge] = headTotal(plan, used, matter, judge);
-            }
-            for (int found = 0; found < NEXT_ONES; found++) {
-                int judge = firstJudge();
-                if (judge == NONE) {
-                    return found;
-                }
-                int place = used * NEXT_ONES + found;
-                totals[place] = sums[judge];
-                firsts[place] = judge;
-                onward[place] = heads[judge];
-                heads[judge]++;
-                sums[judge] = headTotal(plan, used, matter, judge);
-            }
-            return NEXT_ONES;
-        }
-
-        /** TOTAL of the first way by a judge that isn't taken yet; NO: there is none. */
-        private long headTotal(Plan plan, int used, int matter, int judge) {
-            int bit = 1 << judge;
-            int then = used | bit;
-            if ((plan.rows[matter] & ~used & bit) == 0 || heads[judge] >= sizes[then]) {
-                return NO;
-            }
-            return plan.burdens[judge * SEATS + matter] + totals[then * NEXT_ONES + heads[judge]];
-        }
-
-        private int firstJudge() {
-            int first = NONE;
-            for (int judge = 0; judge < SEATS; judge++) {
-                if (sums[judge] != NO && (first == NONE || sums[judge] < sums[first])) {
-                    first = judge;
+        private int firstPart() {
+            int first = 0;
+            for (int part = 1; part < waiting; part++) {
+                if (sums[part] < sums[first] || sums[part] == sums[first] && isAhead(part, first)) {
+                    first = part;
                 }
             }
             return first;
         }
 
-        private void follow(Plan plan, int i) {
-            int used = 0;
-            int way = i;
-            for (int turn = 0; turn < plan.cases; turn++) {
-                int place = used * NEXT_ONES + way;
-                judges[i * SEATS + plan.order[turn]] = firsts[place];
-                used |= 1 << firsts[place];
-                way = onward[place];
+        /** Whether the first one of a part is ahead of another's in ORDER; a case that is OUT has NONE in both. */
+        private boolean isAhead(int part, int other) {
+            for (int matter = 0; matter < SEATS; matter++) {
+                int one = picks[part * SEATS + matter];
+                int two = picks[other * SEATS + matter];
+                if (one != two) {
+                    return one < two;
+                }
+            }
+            return false;
+        }
+
+        private void keep(int part) {
+            totals[found] = sums[part];
+            System.arraycopy(picks, part * SEATS, judges, found * SEATS, SEATS);
+            found++;
+        }
+
+        /** The last part takes the place of one that waits no more. */
+        private void drop(int part) {
+            waiting--;
+            sums[part] = sums[waiting];
+            keeps[part] = keeps[waiting];
+            closed[part] = closed[waiting];
+            System.arraycopy(picks, waiting * SEATS, picks, part * SEATS, SEATS);
+        }
+
+        /** Splits what is left of the part of the one found latest. */
+        private void split(Plan plan, int from, int shut) {
+            int latest = found - 1;
+            int out = shut;
+            for (int turn = from; turn < plan.cases; turn++) {
+                out |= 1 << judges[latest * SEATS + plan.order[turn]];
+                propose(plan, latest, turn, out);
+                out = 0;
             }
         }
 
+        /** The part that keeps as many cases of a found one as turn tells waits, if there is one in it. */
+        private void propose(Plan plan, int base, int turn, int shut) {
+            if (waiting >= MOST_WAITING) {
+                return;
+            }
+            int row = waiting * SEATS;
+            for (int matter = 0; matter < SEATS; matter++) {
+                picks[row + matter] = NONE;
+            }
+            int used = 0;
+            long sum = 0;
+            for (int i = 0; i < plan.cases; i++) {
+                int matter = plan.order[i];
+                int out = i == turn ? shut : 0;
+                int judge = i < turn ? judges[base * SEATS + matter] : plan.firstLead(used, matter, out);
+                if (judge == NONE) {
+                    return;
+                }
+                picks[row + matter] = judge;
+                used |= 1 << judge;
+                sum += plan.burdens[judge * SEATS + matter];
+            }
+            sums[waiting] = sum;
+            keeps[waiting] = turn;
+            closed[waiting] = shut;
+            waiting++;
+        }
+
         /** Which NEXT ONE has these judges by cases; NONE: none of them. */
-        int placeOf(int[] picks) {
-            for (int i = 0; i < sizes[0]; i++) {
+        int placeOf(int[] told) {
+            for (int i = 0; i < found; i++) {
                 boolean same = true;
                 for (int matter = 0; matter < SEATS; matter++) {
-                    same = same && judges[i * SEATS + matter] == picks[matter];
+                    same = same && judges[i * SEATS + matter] == told[matter];
                 }
                 if (same) {
                     return i;

@@ -1,3 +1,6 @@
+import java.io.PrintWriter;
+import java.io.StringWriter;
+import java.lang.reflect.Array;
 import java.lang.reflect.Constructor;
 import java.lang.reflect.Field;
 import java.lang.reflect.Method;
@@ -5,12 +8,17 @@ import java.lang.reflect.Modifier;
 import java.nio.charset.StandardCharsets;
 import java.nio.file.Files;
 import java.nio.file.Path;
+import java.util.ArrayList;
 import java.util.Arrays;
+import java.util.IdentityHashMap;
 import java.util.List;
+import java.util.Map;
 import java.util.Set;
+import java.util.TreeMap;
 import java.util.TreeSet;
 import java.util.regex.Matcher;
 import java.util.regex.Pattern;
+import java.util.spi.ToolProvider;
 
 /** The face of the class, and those rules of ../shared/LANGUAGE.md that show in it or in its source. */
 public final class LanguageTest {
@@ -164,6 +172,121 @@ public final class LanguageTest {
         }
     }
 
+    /** All calls of one run live in one room: what is made by 512 of the dearest ones, constructors, fits it. */
+    private static void room() {
+        Map<Object, Boolean> seen = new IdentityHashMap<>();
+        long elements = 512 * elementsOf(new CourtMatcher(), seen);
+        long objects = 512 * (long) seen.size();
+        Check.holds(elements + " fields and elements fit", elements <= 7300000);
+        Check.holds(objects + " objects and arrays fit", objects <= 600000);
+    }
+
+    private static long elementsOf(Object one, Map<Object, Boolean> seen) {
+        if (one == null || seen.put(one, true) != null) {
+            return 0;
+        }
+        long sum = 0;
+        if (one.getClass().isArray()) {
+            int length = Array.getLength(one);
+            for (int i = 0; i < length && !one.getClass().getComponentType().isPrimitive(); i++) {
+                sum += elementsOf(Array.get(one, i), seen);
+            }
+            return sum + length;
+        }
+        for (Field f : one.getClass().getDeclaredFields()) {
+            if (!Modifier.isStatic(f.getModifiers())) {
+                sum += 1 + (f.getType().isPrimitive() ? 0 : elementsOf(valueOf(f, one), seen));
+            }
+        }
+        return sum;
+    }
+
+    private static Object valueOf(Field f, Object one) {
+        try {
+            f.setAccessible(true);
+            return f.get(one);
+        } catch (IllegalAccessException closed) {
+            throw new IllegalStateException(closed);
+        }
+    }
+
+    /** Who calls whom, the library too, as javap tells it. */
+    private static Map<String, Set<String>> calls(ToolProvider javap) {
+        Map<String, Set<String>> calls = new TreeMap<>();
+        Pattern head = Pattern.compile("  (?:\\S.* )?([\\w$]+)\\(.*\\);");
+        Pattern call = Pattern.compile(".*\\binvoke.*// (?:Interface)?Method (?:([\\w/$]+)\\.)?\"?([\\w<>]+)\"?:.*");
+        List<Class<?>> all = new ArrayList<>(Arrays.asList(CourtMatcher.class.getDeclaredClasses()));
+        all.add(CourtMatcher.class);
+        for (Class<?> c : all) {
+            StringWriter text = new StringWriter();
+            String path = c.getResource(c.getName() + ".class").getPath();
+            javap.run(new PrintWriter(text), new PrintWriter(text), "-c", "-p", path);
+            String method = "";
+            for (String line : text.toString().split("\\R")) {
+                Matcher heads = head.matcher(line);
+                Matcher called = call.matcher(line);
+                if (heads.matches()) {
+                    String name = heads.group(1);
+                    method = c.getName() + "." + (name.equals(c.getName()) ? "<init>" : name);
+                    calls.putIfAbsent(method, new TreeSet<>());
+                } else if (called.matches()) {
+                    String owner = called.group(1) == null ? c.getName() : called.group(1);
+                    calls.get(method).add(owner + "." + called.group(2));
+                }
+            }
+        }
+        return calls;
+    }
+
+    private static Set<String> reach(String method, Map<String, Set<String>> calls) {
+        Set<String> seen = new TreeSet<>();
+        List<String> waiting = new ArrayList<>(List.of(method));
+        for (int i = 0; i < waiting.size(); i++) {
+            for (String next : calls.getOrDefault(waiting.get(i), Set.of())) {
+                if (seen.add(next)) {
+                    waiting.add(next);
+                }
+            }
+        }
+        return seen;
+    }
+
+    /** How deep calls go below and with a method; those that are one recursion together count once. */
+    private static int depth(String method, Map<String, Set<String>> calls) {
+        Set<String> ring = new TreeSet<>(List.of(method));
+        for (String other : reach(method, calls)) {
+            if (reach(other, calls).contains(method)) {
+                ring.add(other);
+            }
+        }
+        int deepest = 0;
+        for (String one : ring) {
+            for (String next : calls.getOrDefault(one, Set.of())) {
+                if (!ring.contains(next)) {
+                    deepest = Math.max(deepest, depth(next, calls));
+                }
+            }
+        }
+        return 1 + deepest;
+    }
+
+    private static void depths() {
+        ToolProvider javap = ToolProvider.findFirst("javap").orElse(null);
+        if (javap == null) {
+            System.out.println("  javap isn't here: not looked at");
+            return;
+        }
+        Map<String, Set<String>> calls = calls(javap);
+        for (String line : FACE) {
+            String method = "CourtMatcher." + line.replaceAll("^\\w+ |\\(.*", "");
+            Check.holds(method + " was found", calls.containsKey(method));
+            int depth = depth(method, calls);
+            Check.holds(method + " goes " + depth + " deep", depth <= 8);
+        }
+        Check.holds("the reading of RULES is seen as recursion",
+            reach("CourtMatcher$Teller.read", calls).contains("CourtMatcher$Teller.read"));
+    }
+
     /** The dearest calls one after the other make nothing that is counted. */
     private static void nothingMade() {
         CourtMatcher x = new CourtMatcher();
@@ -211,6 +334,8 @@ public final class LanguageTest {
         Check.test("words and calls that are allowed", LanguageTest::words);
         Check.test("nothing is made by calls, in the source", LanguageTest::made);
         Check.test("nothing is made by calls, as counted", LanguageTest::nothingMade);
+        Check.test("512 objects fit one room", LanguageTest::room);
+        Check.test("calls go eight deep at most", LanguageTest::depths);
         Check.test("loops have an end", LanguageTest::loops);
         Check.test("methods are short", LanguageTest::lengths);
         Check.end();
