@@ -341,6 +341,30 @@ public final class BoundsOfBestTest extends Scene {
             }
             due("no seventh", x.next(6, NONE), NO);
         });
+        test("terms 3, NEXT ONES: twelve that leave the ones ahead at many cases", () -> {
+            // case 0 takes any judge for 0, all others their own for 0, the one below for 1, and three more by a few
+            long[][] burdens = new long[8][8];
+            for (int judge = 0; judge < 8; judge++) {
+                for (int matter = 1; matter < 8; matter++) {
+                    burdens[judge][matter] = judge == matter ? 0 : judge == matter - 1 ? 1 : 1000;
+                }
+            }
+            burdens[6][1] = 2;
+            burdens[3][2] = 2;
+            burdens[5][7] = 3;
+            CourtMatcher x = court(burdens);
+            int[] judges = {1234567, 10234567, 20134567, 1324567, 30124567, 10324567, 40123567, 50123467, 60123457,
+                6123457, 70123456, 70123465};
+            long[] totals = {0, 1, 2, 3, 3, 4, 4, 5, 6, 7, 7, 8};
+            for (int i = 0; i < 12; i++) {
+                long told = 0;
+                for (int matter = 0; matter < 8; matter++) {
+                    told = told * 10 + x.next(i, matter);
+                }
+                due("judges of " + i, told, judges[i]);
+                due("TOTAL of " + i, x.next(i, NONE), totals[i]);
+            }
+        });
         test("terms 3, NEXT ONES: a FULL one that isn't BEST, too; one that isn't FULL, never", () -> {
             CourtMatcher x = court(new long[][] {{1, -1}, {50, 7}});
             due("the only one", x.next(0, NONE), 8);
